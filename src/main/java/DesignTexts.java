@@ -414,8 +414,8 @@ public final class DesignTexts {
     }
 
     /**
-     * Reads a text of either kind. The first fault stays, and what is read behind it means nothing:
-     * so no step has to ask whether the one ahead of it went well, but for the sake of its own loop.
+     * Reads a text of either kind. The first fault stays, and what is read behind it is used by
+     * nobody: so no step has to ask whether the one ahead of it went well.
      */
     private static final class TextReader {
         private final Bytes text;

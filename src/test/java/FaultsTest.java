@@ -166,6 +166,8 @@ public final class FaultsTest {
         fault("aag 2 0 0 0 2\n2 4 0\n4 0 5\n", 20);
         fault("aag 3 0 0 0 3\n2 4 0\n4 0 7\n6 1 5\n", 20);
         fault("aag 3 0 0 0 3\n2 4 0\n4 0 7\n6 1 3\n", 14);
+        fault("aag 99 0 0 0 2\n196 0 1\n198 198 0\n", 23);
+        fault("aag 99 0 0 0 2\n196 197 1\n198 1 0\n", 15);
         fine("aag 3 0 1 0 2\n2 6\n4 6 2\n6 2 3\n");
         fine("aag 3 0 0 0 3\n2 4 6\n4 6 6\n6 0 1\n");
     }
@@ -227,6 +229,8 @@ public final class FaultsTest {
         fine(most + "\1\u0097\1");
         fault(most + "\1\u0098\1", size + 1);
         fine(most + "\u0080\1\0");
+        fault(most + "\u0081\2\0", size);
+        fault(most + "\1\u0081\2", size + 1);
         fault(most + "\u0080", size + 1);
         fault(most + "\u0080\1", size + 2);
     }

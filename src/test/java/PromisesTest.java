@@ -199,7 +199,7 @@ public final class PromisesTest {
         for (int k = 11; k <= 68; k++) {
             text.append(2 * k).append(" 1 0\n");
         }
-        text.append("138 11 10\n140 139 1\n");
+        text.append("138 10 9\n140 139 1\n");
         Desk large = with(text.toString());
         StringBuilder due = new StringBuilder("aig 70 8 2 0 60\n0\n0\n");
         for (int k = 11; k <= 68; k++) {
@@ -212,7 +212,7 @@ public final class PromisesTest {
             }
             due.append('\1');
         }
-        due.append("\177\1\1\u008a\1");
+        due.append("\u0080\1\1\1\u008a\1");
         Desk.same("long differences", Desk.shown(large.write(1)), Desk.shown(due.toString()));
     }
 
