@@ -27,6 +27,14 @@ final class Desk {
         return MOST_CALLS - calls;
     }
 
+    static int wrong() {
+        return wrong;
+    }
+
+    static int compared() {
+        return compared;
+    }
+
     static void same(String what, Object got, Object due) {
         compared++;
         if (!due.equals(got)) {
@@ -63,6 +71,24 @@ final class Desk {
             }
             x().put(many, v);
         }
+    }
+
+    /** The fault of a text, read by a new object: the text is empty then, with a fault or without. */
+    static void fault(String text, int due) {
+        Desk desk = new Desk();
+        same("fault of " + shown(text), desk.read(text), due);
+        same("bytes after " + shown(text), desk.x().about(5), 0);
+    }
+
+    static void fine(String text) {
+        fault(text, DesignTexts.NONE);
+    }
+
+    /** A new object that has read a text without a fault. */
+    static Desk with(String text) {
+        Desk desk = new Desk();
+        desk.readWell(text);
+        return desk;
     }
 
     int read(String text) {

@@ -1,13 +1,11 @@
 /** Promise 3 with Terms 1 and 2: where the fault of a text is. */
 public final class FaultsTest {
     private static void fault(String text, int due) {
-        Desk desk = new Desk();
-        Desk.same("fault of " + Desk.shown(text), desk.read(text), due);
-        Desk.same("bytes after " + Desk.shown(text), desk.x().about(5), 0);
+        Desk.fault(text, due);
     }
 
     private static void fine(String text) {
-        fault(text, DesignTexts.NONE);
+        Desk.fine(text);
     }
 
     private static void beginnings() {

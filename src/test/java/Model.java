@@ -345,22 +345,19 @@ final class Model {
         return difference < 128 ? "" + (char) difference : "" + (char) (difference | 128) + (char) (difference >> 7);
     }
 
+    /** A row for each kind by which a caller asks. */
+    List<List<Integer>> rows() {
+        return List.of(inputs, column(latches, 0), outputs, column(gates, 0),
+            column(latches, 1), column(latches, 2), column(gates, 1), column(gates, 2));
+    }
+
     /** The design in the words in which a desk tells what it has seen. */
     String seen(int bytes) {
-        List<List<Integer>> rows = new ArrayList<>();
-        rows.add(inputs);
-        rows.add(column(latches, 0));
-        rows.add(outputs);
-        rows.add(column(gates, 0));
-        rows.add(column(latches, 1));
-        rows.add(column(latches, 2));
-        rows.add(column(gates, 1));
-        rows.add(column(gates, 2));
         StringBuilder all = new StringBuilder();
         all.append(most).append(' ').append(inputs.size()).append(' ').append(latches.size()).append(' ');
         all.append(outputs.size()).append(' ').append(gates.size()).append(' ');
         all.append(bytes).append(' ').append(inOrder() ? 1 : 0).append(' ');
-        for (List<Integer> row : rows) {
+        for (List<Integer> row : rows()) {
             all.append("| ");
             row.forEach(x -> all.append(x).append(' '));
         }

@@ -7,9 +7,7 @@ public final class PromisesTest {
         "aag 20 2 2 3 4\n30\n8\n40 13 1\n2 31\n6\n12\n1\n6 12 20\n12 9 40\n20 2 12\n22 30 31\n";
 
     private static Desk with(String text) {
-        Desk desk = new Desk();
-        desk.readWell(text);
-        return desk;
+        return Desk.with(text);
     }
 
     private static void newObject() {
