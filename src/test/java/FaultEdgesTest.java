@@ -325,6 +325,17 @@ public final class FaultEdgesTest {
         readInTurn("aag 100", 4, "aag 99 0 0 0 0\n");
     }
 
+    /** The later text's only gate rests on itself, and its value was that of a second gate before. */
+    @Case("the literal of the first gate that RESTS on itself")
+    private static void restsOnItselfBehindAnEarlierText() {
+        for (String earlier : new String[] {"aag 2 0 0 0 2\n4 1 1\n2 3 1\n", "aag 2 0 0 0 2\n4 1 1\n2 1 1\n"}) {
+            Desk desk = new Desk();
+            desk.read(earlier);
+            desk.read(earlier);
+            Desk.same("behind " + Desk.shown(earlier), desk.read("aag 1 0 0 0 1\n2 2 1\n"), 14);
+        }
+    }
+
     public static void main(String[] args) {
         Cases.runAll(FaultEdgesTest.class);
     }

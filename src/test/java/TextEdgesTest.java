@@ -266,7 +266,9 @@ public final class TextEdgesTest {
     private static void smallDesignsBehindFullOnes() {
         String full = Texts.packed(8, 8, 8, 60).replace("\n0\n", "\n1 1\n").replace("\n0\n", "\n1 1\n");
         for (String small : new String[] {"aag 0 0 0 0 0\n", "aag 1 1 0 0 0\n2\n", "aag 9 1 1 1 1\n18\n16 3 1\n2\n2 16 18\n",
-            "aag 9 0 1 2 1\n2 2\n6\n0\n6 1 3\n", "aig 3 1 1 1 1\n6\n7\n\1\3", "aag 4 1 0 1 3\n2\n8\n8 6 4\n6 5 4\n4 2 2\n"}) {
+            "aag 9 0 1 2 1\n2 2\n6\n0\n6 1 3\n", "aig 3 1 1 1 1\n6\n7\n\1\3", "aag 4 1 0 1 3\n2\n8\n8 6 4\n6 5 4\n4 2 2\n",
+            // An input whose literal was the first latch's, and one whose literal was the first gate's.
+            "aag 9 1 0 1 0\n18\n18\n", "aag 17 1 0 1 0\n34\n34\n"}) {
             Desk desk = new Desk();
             desk.readWell(full);
             desk.readWell(full);
